@@ -153,6 +153,28 @@ final class PromiseTest {
         fault(1, "burned 0 1 2;", 1, 0);
         fault(2, "burned 0 1;", 1, 10);
         fault(2, "quarrel 0 1 0 0;", 1, 0);
+        nothingBehindTheEnd();
+    }
+
+    // what an earlier text or a longer tape had behind the end is not read
+    private static void nothingBehindTheEnd() {
+        String[][] rows = {{"hour;hourx", "hour;hour"}, {"news 0 0;news 12 3;", "news 0 0;news 1"}, {"hour;      x", "hour;  "}};
+        int[] places = {9, 15, NONE};
+        for (int i = 0; i < rows.length; i++) {
+            QuarrelOvens x = new QuarrelOvens();
+            Check.tell(x, 1, NONE, rows[i][0]);
+            Check.tell(x, 1, NONE, rows[i][1]);
+            due("nothing behind '" + rows[i][1] + "'", x.fault(1), places[i]);
+            QuarrelOvens y = new QuarrelOvens();
+            Check.feed(y, rows[i][0]);
+            y.end(rows[i][1].length());
+            y.text(1, NONE);
+            due("nothing behind the end of '" + rows[i][1] + "'", y.fault(1), places[i]);
+        }
+        fault(1, "hour;".repeat(40) + " ".repeat(400), 0, NONE);
+        fault(1, " ".repeat(596) + "hour", 1, 600);
+        fault(1, " ".repeat(595) + "hour;", 0, NONE);
+        fault(2, " ".repeat(591) + "burned 12", 1, 600);
     }
 
     // 5, fault 2
@@ -478,6 +500,9 @@ final class PromiseTest {
         due("all fit", y.fits(0, 0, 0), 20);
         due("not one SUBJECT", y.fits(0, 0, 1), NONE);
         due("the last", y.fits(0, 0, 29), 19);
+        QuarrelOvens hot = Check.log("people 2;subject 9 9;holds 0 0 0;holds 1 0 9;", EMPTY);
+        due("ask, as hot as can be", hot.fits(0, 0, 2), 1);
+        due("next, as hot as can be", hot.next(0, 0, 0, 1, true), 81);
         due("fewer than two", Check.log("people 1;subject 1 1;", EMPTY).fits(0, 0, 2), NONE);
         due("no SUBJECTS", Check.log("people 2;", EMPTY).fits(0, 0, 0), 0);
     }
@@ -561,6 +586,8 @@ final class PromiseTest {
         due("without cooling", Check.village(two + "cools 0;").kept(0, 0, 1, 0, 0), 99);
         due("with cooling", Check.village(two + "cools 1;").kept(0, 0, 1, 0, 0), 21);
         due("too little", Check.village("people 2;holds 0 0 0;holds 1 0 1;hearth 5 25;subject 4 1;").kept(0, 0, 1, 0, 0), 0);
+        // in hour 4 it must be 54 and 45, which is as much as it bears
+        due("up to 99", Check.village("people 2;cools 9;subject 9 4;hearth 60 99;holds 0 0 0;holds 1 0 9;").kept(0, 0, 1, 0, 0), 9);
         // the second quarrel cracks it unless it is cold again, which it is at once
         due("cold in between", Check.village("people 2;cools 9;holds 0 0 0;holds 1 0 1;hearth 7 9;subject 9 1;").kept(0, 0, 1, 0, 0), 3);
     }
