@@ -82,17 +82,19 @@ public final class QuarrelOvens {
     }
 
     public int text(int sort, int at) {
+        int length = told.size;
+        // the tape is taken even where no text may be read from it
+        told.size = 0;
+        told.fault = 0;
+        told.faultPlace = NONE;
         int place = told.placeFor(sort, at);
         if (place == NONE) {
-            told.fault = 0;
-            told.faultPlace = NONE;
             return ABSENT;
         }
-        reader.readText(sort, told.tape, told.size);
-        told.size = 0;
-        told.fault = reader.fault;
-        told.faultPlace = reader.faultPlace;
+        reader.readText(sort, told.tape, length);
         if (reader.fault != 0) {
+            told.fault = reader.fault;
+            told.faultPlace = reader.faultPlace;
             return NONE;
         }
         told.put(sort, place, reader);

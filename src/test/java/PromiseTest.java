@@ -86,13 +86,11 @@ final class PromiseTest {
     // 4, 33
     private static void texts() {
         QuarrelOvens x = new QuarrelOvens();
-        Check.feed(x, "people 3;");
-        due("no such sort", x.text(3, NONE), -2);
-        due("no such sort", x.text(-1, NONE), -2);
-        due("none such", x.text(0, 0), -2);
-        due("none such", x.text(0, -2), -2);
-        due("no text was read", x.end(9), 9);
-        due("a further one", x.text(0, NONE), 0);
+        refused(x, 3, NONE);
+        refused(x, -1, NONE);
+        refused(x, 0, 0);
+        refused(x, 0, -2);
+        due("a further one", Check.tell(x, 0, NONE, "people 3;"), 0);
         due("the tape is empty", x.end(1), NONE);
         due("count", x.count(0), 1);
         due("a second one", Check.tell(x, 0, NONE, "people 2;"), 1);
@@ -101,10 +99,9 @@ final class PromiseTest {
         due("the tape is empty", x.end(1), NONE);
         due("fault", x.fault(0), 1);
         due("fault stays", x.village(1, 0), 2);
-        due("as many as may be", Check.tell(x, 0, NONE, "people 1;"), -2);
-        due("no fault", x.fault(0), 0);
-        due("no place", x.fault(1), NONE);
-        x.end(0);
+        refused(x, 0, NONE);
+        refused(x, 0, 2);
+        refused(x, 1, 0);
         due("in the place of one", Check.tell(x, 0, 0, "people 7;"), 0);
         due("struck", x.village(0, 0), 7);
         due("not struck", x.village(1, 0), 2);
@@ -113,6 +110,18 @@ final class PromiseTest {
         due("a log", Check.tell(x, 2, NONE, ""), 0);
         due("days", x.count(1), 1);
         due("logs", x.count(2), 1);
+    }
+
+    /** No text is read then, but the tape is taken. */
+    private static void refused(QuarrelOvens x, int sort, int at) {
+        int villages = x.count(0);
+        Check.feed(x, "people 1;");
+        due("refused: text(" + sort + ", " + at + ")", x.text(sort, at), -2);
+        due("refused: no fault", x.fault(0), 0);
+        due("refused: no place", x.fault(1), NONE);
+        due("refused: the tape is empty", x.feed(0, 0, 0, 0, 0), 20);
+        due("refused: nothing of it is left", x.end(0), 0);
+        due("refused: count", x.count(0), villages);
     }
 
     private static void fault(int sort, String text, int kind, int place) {
