@@ -1,3 +1,8 @@
+import java.lang.reflect.InvocationTargetException;
+import java.lang.reflect.Method;
+import java.util.Arrays;
+import java.util.Comparator;
+
 /** What the tests share: telling texts by feed and end, and counting answers that are not as due. */
 final class Check {
     private int wrong = 0;
@@ -28,6 +33,42 @@ final class Check {
         System.out.println(name + ": " + asked + " answers, " + wrong + " not as due");
         if (wrong != 0) {
             System.exit(1);
+        }
+    }
+
+    /** Runs each test of a class, which is a method named after its promise, with a Check of that name. */
+    static void runAll(Class<?> tests) {
+        int failed = 0;
+        int run = 0;
+        for (Method test : testsOf(tests)) {
+            Check c = new Check(test.getName());
+            c.run(test);
+            run++;
+            failed += c.wrong > 0 ? 1 : 0;
+        }
+        System.out.println(tests.getName() + ": " + run + " tests, " + failed + " failed");
+        if (failed != 0 || run == 0) {
+            System.exit(1);
+        }
+    }
+
+    static Method[] testsOf(Class<?> tests) {
+        return Arrays.stream(tests.getDeclaredMethods())
+            .filter(m -> m.getName().matches("promise[0-9]{2}.*"))
+            .sorted(Comparator.comparing(Method::getName))
+            .toArray(Method[]::new);
+    }
+
+    private void run(Method test) {
+        try {
+            test.invoke(null, this);
+        } catch (InvocationTargetException e) {
+            due("threw " + e.getCause(), 1, 0);
+        } catch (IllegalAccessException e) {
+            due("can't be run: " + e, 1, 0);
+        }
+        if (asked == 0) {
+            due("asks nothing", 0, 1);
         }
     }
 
