@@ -469,6 +469,18 @@ final class Edges01To05Test {
         }
     }
 
+    static void promise05EachLetterOfAWord(Check c) {
+        String[] lines = {"people 1;", "cools 1;", "subject 1 1;", "hearth 1 1;", "holds 0 0 0;", "quarrel 0 1 0 0;", "agree 0 1 0;",
+            "deny 0 1 0;", "news 0 0;", "hour;", "burned 0 1 0;"};
+        for (int i = 0; i < lines.length; i++) {
+            int sort = i < 5 ? 0 : i < 10 ? 1 : 2;
+            for (int at = 0; at < lines[i].length() && Character.isLetter(lines[i].charAt(at)); at++) {
+                fault(c, sort, lines[i].substring(0, at) + "x" + lines[i].substring(at + 1), 1, 0);
+                fault(c, sort, lines[i].substring(0, at) + lines[i].substring(at + 1), 1, 0);
+            }
+        }
+    }
+
     // "words, rows of letters a .. z"
     static void promise05LettersAToZAlone(Check c) {
         for (int sign : new int[] {'a' - 1, 'z' + 1, 'A', 'Z', 'H', 225, 250}) {
@@ -543,14 +555,18 @@ final class Edges01To05Test {
     }
 
     static void promise05NothingBehindTheEndIsRead(Check c) {
-        String[][] rows = {{"hour;hour;", "hour;hour"}, {"news 0 0;news 1 3;", "news 0 0;news 1"}, {"hour;  x", "hour;  "}, {"hourx", "hour"}};
+        String[][] rows = {{"hour;hour;", "hour;hour"}, {"news 0 0;news 12 3;", "news 0 0;news 1"}, {"hour;  x", "hour;  "}, {"hourx", "hour"}};
         int[] places = {9, 15, NONE, 4};
         for (int i = 0; i < rows.length; i++) {
             QuarrelOvens x = new QuarrelOvens();
-            Check.feed(x, rows[i][0]);
-            x.end(rows[i][1].length());
-            x.text(1, NONE);
-            c.due("'" + rows[i][1] + "'", x.fault(1), places[i]);
+            Check.tell(x, 1, NONE, rows[i][0]);
+            c.due("'" + rows[i][1] + "' behind a longer text", Check.tell(x, 1, NONE, rows[i][1]), places[i] != NONE ? NONE : x.count(1) - 1);
+            c.due("its place", x.fault(1), places[i]);
+            QuarrelOvens y = new QuarrelOvens();
+            Check.feed(y, rows[i][0]);
+            y.end(rows[i][1].length());
+            y.text(1, NONE);
+            c.due("'" + rows[i][1] + "', the rest cut", y.fault(1), places[i]);
         }
     }
 

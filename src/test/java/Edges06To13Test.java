@@ -120,6 +120,16 @@ final class Edges06To13Test {
         c.due("no village", new QuarrelOvens().apart(0, 0, 1, 0, false), NONE);
     }
 
+    static void promise07NoneSuchWhereThereAreAllThatMayBe(Check c) {
+        QuarrelOvens x = Check.village(FULL);
+        for (int p = 0; p < 8; p++) {
+            c.due("a ninth PERSON", x.apart(0, p, 8, 0, false), NONE);
+            c.due("a ninth PERSON", x.apart(0, 8, p, 5, true), NONE);
+            c.due("a seventh SUBJECT", x.apart(0, p, (p + 1) % 8, 6, false), NONE);
+            c.due("a seventh SUBJECT", x.apart(0, 7 - p, (14 - p) % 8, 6, true), NONE);
+        }
+    }
+
     static void promise07NotApartIs0(Check c) {
         QuarrelOvens x = Check.village(FOUR);
         c.due("apart", x.apart(0, 1, 2, 0, false), 0);
@@ -484,6 +494,12 @@ final class Edges06To13Test {
         QuarrelOvens y = Check.village(KEEN.replace("holds 1 2 3", "holds 1 2 4"));
         c.due("the last", y.keenest(0, 0, 1, false), 2);
         c.due("the last, much", y.keenest(0, 0, 1, true), 24);
+    }
+
+    static void promise11JustAbove0(Check c) {
+        QuarrelOvens x = Check.village("people 2;subject 1 1;subject 1 1;holds 0 0 3;holds 1 0 3;holds 0 1 3;holds 1 1 4;");
+        c.due("subject", x.keenest(0, 0, 1, false), 1);
+        c.due("much", x.keenest(0, 0, 1, true), 1);
     }
 
     // "(on none above 0: none)"; "NONE: none"

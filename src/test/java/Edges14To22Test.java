@@ -71,6 +71,22 @@ final class Edges14To22Test {
         plan(c, eight.toString().replace("hearth 4 4", "hearth 5 5"), NONE, NONE, NONE, NONE, NONE);
     }
 
+    static void promise14FirstPersonAndLastSubject(Check c) {
+        plan(c, "people 4;" + "subject 1 1;".repeat(6) + "hearth 4 4;hearth 5 5;holds 2 5 0;holds 3 5 4;holds 0 0 0;holds 1 0 5;", 9, 523, 1);
+        plan(c, "people 8;" + "subject 1 1;".repeat(6) + "hearth 4 4;hearth 5 5;holds 0 5 0;holds 7 5 4;holds 1 0 0;holds 6 0 5;", 9, 507, 16);
+    }
+
+    static void promise14OfOneVillageBehindAnother(Check c) {
+        QuarrelOvens x = Check.village(FIVE + "hearth 1 9;");
+        Check.tell(x, 0, NONE, "people 4;subject 1 1;holds 2 0 0;holds 3 0 6;hearth 1 9;");
+        for (int i = 0; i < 3; i++) {
+            c.due("plan of the first", x.plan(0, NONE), 5);
+            c.due("row of the first", x.plan(0, 0), 1);
+            c.due("plan of the second", x.plan(1, NONE), 6);
+            c.due("row of the second", x.plan(1, 0), 23);
+        }
+    }
+
     static void promise14AsHotAsCanBe(Check c) {
         plan(c, "people 2;subject 9 1;hearth 60 81;holds 0 0 0;holds 1 0 9;", 81, 1);
         plan(c, "people 2;subject 9 1;hearth 60 80;holds 0 0 0;holds 1 0 9;", NONE, NONE);
@@ -319,6 +335,7 @@ final class Edges14To22Test {
         QuarrelOvens x = Check.log("people 2;" + "subject 1 1;".repeat(6), "");
         c.due("all of six subjects", x.fits(0, 0, 0), 60);
         for (int k = 0; k < 60; k++) c.due("the " + k + "-th", x.fits(0, 0, 10 + k), k);
+        c.due("ask, of sixty", x.fits(0, 0, 2), 1);
         for (int what : new int[] {70, 71, 100, MAX}) c.due("no " + what, x.fits(0, 0, what), -2);
     }
 
@@ -331,6 +348,7 @@ final class Edges14To22Test {
     static void promise18Sure(Check c) {
         c.due("one that fits", Check.log(NINE, "burned 0 1 9;").fits(0, 0, 1), 0);
         c.due("several of one subject", Check.log(NINE, "").fits(0, 0, 1), 0);
+        c.due("one that fits, behind nine", Check.log(NINE, "burned 0 1 0;").fits(0, 0, 1), 0);
         c.due("nothing fits", Check.log(NINE, "burned 0 1 99;").fits(0, 0, 1), NONE);
         String two = NINE + "subject 9 1;holds 0 1 5;holds 1 1 4;";
         c.due("two subjects", Check.log(two, "burned 0 1 8;").fits(0, 0, 1), NONE);
@@ -352,6 +370,7 @@ final class Edges14To22Test {
 
     // "the greatest number by which it BURNS as much is least, of several the first by numbers"
     static void promise18AskTheFirstOfSeveral(Check c) {
+        c.due("one that fits", Check.log(NINE, "burned 0 1 9;").fits(0, 0, 2), 1);
         c.due("none burns", Check.log("people 8;subject 1 1;", "").fits(0, 0, 2), 1);
         c.due("all burn alike", Check.log("people 4;subject 9 1;holds 1 0 0;holds 2 0 3;holds 3 0 9;", "").fits(0, 0, 2), 12);
         c.due("the last two", Check.log("people 8;subject 9 1;holds 6 0 0;holds 7 0 1;", "").fits(0, 0, 2), 67);
@@ -365,6 +384,9 @@ final class Edges14To22Test {
         // 0 and 1 burn 8 next on either SUBJECT, 0 and 2 burn 16 or 24
         String three = "people 3;subject 9 1;subject 9 1;holds 0 0 0;holds 1 0 1;holds 2 0 2;holds 0 1 0;holds 1 1 1;holds 2 1 3;";
         c.due("0 and 2", Check.log(three, "burned 0 1 9;").fits(0, 0, 2), 2);
+        // and here 64 or 72
+        String hot = three.replace("holds 2 0 2", "holds 2 0 8").replace("holds 2 1 3", "holds 2 1 9");
+        c.due("0 and 2, hot", Check.log(hot, "burned 0 1 9;").fits(0, 0, 2), 2);
     }
 
     // "-2: a PERSON that was told of is not there"
@@ -661,6 +683,9 @@ final class Edges14To22Test {
         // in hour 4 it must be 54 and 45, which is all that it bears
         kept(c, 9, 9, 4, 9, "60 99", 9);
         kept(c, 9, 9, 4, 9, "60 98", 3);
+        // 72 .. 60, then 59 and 40: 99 .. 60, then 59 and 8: 67 .. 60
+        kept(c, 1, 9, 4, 8, "60 99", 13 + 40 + 8);
+        kept(c, 1, 9, 4, 8, "60 98", 13);
         kept(c, 9, 9, 7, 9, "60 99", 5);
         kept(c, 9, 9, 7, 9, "60 80", 0);
     }
@@ -752,6 +777,10 @@ final class Edges14To22Test {
         for (int[] row : rows) {
             calm(c, holding(row[0], row[1]), 2, row[2]);
             calm(c, holding(row[0], row[1]), 3, row[3]);
+        }
+        for (int held = 0; held <= 9; held++) {
+            calm(c, holding(held, held, held), 2, held);
+            calm(c, holding(held, held, held), 3, 0);
         }
         calm(c, holding(9, 9, 9, 0), 2, 9);
         calm(c, holding(9, 9, 9, 0), 3, 9);

@@ -29,6 +29,11 @@ final class Edges23To35Test {
         for (int held = 0; held <= 9; held++) hired(c, "people 2;subject 9 1;holds 1 0 " + held + ";", 0, 1, 0, much[held]);
     }
 
+    static void promise23JustAbove0(Check c) {
+        hired(c, holding(5, 4), 0, 1, 0, 1);
+        hired(c, holding(NONE, 5), 0, 1, 0, 1);
+    }
+
     static void promise23WhatTheFirstOneHoldsIsNothing(Check c) {
         for (int held : new int[] {NONE, 0, 4, 9}) hired(c, holding(held, 0), 0, 1, 0, 9);
     }
@@ -120,6 +125,14 @@ final class Edges23To35Test {
         filled(c, "people 4;subject 1 1;subject 1 1;holds 2 0 0;holds 3 0 4;holds 0 1 0;holds 1 1 5;hearth 1 99;", 9, 23, 101);
     }
 
+    static void promise24OfOneHearthBehindAnother(Check c) {
+        QuarrelOvens x = Check.village(TWO + "hearth 1 9;hearth 1 5;hearth 1 3;");
+        int[][] wants = {{9, 1, 123}, {5, 123, NONE}, {0, NONE, NONE}};
+        for (int i = 0; i < 6; i++) {
+            for (int k = -1; k < 2; k++) c.due("hearth " + i % 3 + ", " + k, x.filled(0, i % 3, k), wants[i % 3][k + 1]);
+        }
+    }
+
     static void promise24AsHotAsCanBe(Check c) {
         String hot = "people 4;subject 9 1;subject 2 1;holds 0 0 0;holds 1 0 9;holds 2 1 0;holds 3 1 9;";
         filled(c, hot + "hearth 1 99;", 99, 1, 123);
@@ -172,6 +185,7 @@ final class Edges23To35Test {
         halves(c, holding(0, 9, 9), 18, 1);
         halves(c, holding(9, 9, 0), 18, 3);
         halves(c, holding(0, 9, 0, 9), 36, 5);
+        halves(c, holding(0, 9, 9, 0), 36, 9);
     }
 
     static void promise25EightPeople(Check c) {
@@ -218,6 +232,17 @@ final class Edges23To35Test {
         circle(c, holding(0, 1, 2, 3, 4, 5, 6, 7), 0, 1, 2, 3, 4, 5, 6, 7);
         circle(c, holding(0, 0, 0, 0, 9, 9, 9, 9), 0, 4, 1, 5, 2, 6, 3, 7);
         circle(c, holding(9, 0, 0, 0, 0, 0, 0, 9), 1, 0, 2, 7, 3);
+    }
+
+    static void promise26OfOneVillageBehindAnother(Check c) {
+        QuarrelOvens x = Check.village(holding(0, 5, 9));
+        Check.tell(x, 0, NONE, holding(NONE, NONE, NONE, 4, 5));
+        for (int i = 0; i < 4; i++) {
+            c.due("how many of " + i % 2, x.circle(i % 2, NONE), 3 - i % 2);
+            c.due("the first of " + i % 2, x.circle(i % 2, 0), 3 * (i % 2));
+            c.due("trios of " + i % 2, x.kindred(i % 2, 2), 1 - i % 2);
+            c.due("quiet of " + i % 2, x.quiet(i % 2), 7 * (i % 2));
+        }
     }
 
     // "the first row by numbers"
@@ -395,6 +420,15 @@ final class Edges23To35Test {
         after(c, THREE.replace("4 8", "5 8;hearth 1 9"), "quarrel 0 1 0 0;hour;", 6, 0, NONE, 0);
     }
 
+    static void promise29OfOneDayBehindAnother(Check c) {
+        QuarrelOvens x = Check.day(THREE.replace("4 8", "4 12"), "quarrel 1 2 0 0;hour;quarrel 1 2 0 0;");
+        Check.tell(x, 1, NONE, "hour;quarrel 0 1 0 0;");
+        int[][] wants = {{12, 1, 2, 2}, {6, 0, NONE, 1}};
+        for (int i = 0; i < 6; i++) {
+            for (int what = 0; what < 4; what++) c.due("day " + i % 2 + ", what " + what, x.after(0, i % 2, what), wants[i % 2][what]);
+        }
+    }
+
     static void promise29WithoutHearthsEachStateIsCosy(Check c) {
         after(c, "", "", 0, NONE, NONE, 1);
         after(c, "", "hour;".repeat(40), 0, NONE, NONE, 41);
@@ -431,6 +465,10 @@ final class Edges23To35Test {
         next(c, NINE, "burned 0 1 0;".repeat(8), 0, 1, 0, 0);
         next(c, NINE, "burned 0 2 0;", 0, 1, 0, 8);
         next(c, NINE.replace("holds 1 0 1", "holds 1 0 9"), "", 0, 1, 0, 81);
+    }
+
+    static void promise30OnTheLastSubject(Check c) {
+        next(c, "people 2;" + "subject 9 1;".repeat(6) + "holds 0 5 0;holds 1 5 1;", "burned 0 1 5;", 0, 1, 4, 4);
     }
 
     static void promise30TwoWhoDoNotBothHoldSomething(Check c) {

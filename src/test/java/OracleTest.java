@@ -104,7 +104,7 @@ final class OracleTest {
 
     // ---- villages ----
 
-    private static String village(int people, int subjects, int hearths) {
+    static String village(int people, int subjects, int hearths) {
         StringBuilder b = new StringBuilder("people " + people + ";");
         if (below(2) == 0) b.append("cools " + below(10) + ";");
         int hot = from(1, 9);
@@ -122,7 +122,7 @@ final class OracleTest {
         return b.toString();
     }
 
-    private static String day(int people, int subjects, int hearths) {
+    static String day(int people, int subjects, int hearths) {
         StringBuilder b = new StringBuilder();
         int deeds = below(41);
         int p = Math.max(2, people);
@@ -141,7 +141,7 @@ final class OracleTest {
         return b.toString();
     }
 
-    private static String log(Oracle v) {
+    static String log(Oracle v) {
         StringBuilder b = new StringBuilder();
         int facts = below(below(3) == 0 ? 9 : 3);
         int p = Math.max(2, v.people);
