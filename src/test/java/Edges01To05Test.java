@@ -48,6 +48,14 @@ final class Edges01To05Test {
         c.due("end(1)", y.end(1), NONE);
     }
 
+    // "An object is used for at most 512 calls after it has been made"
+    static void promise01TheLastOf512Calls(Check c) {
+        QuarrelOvens x = new QuarrelOvens();
+        for (int call = 1; call <= 510; call++) c.due("call " + call, call % 2 == 1 ? x.feed(0x20202020, 0, 0, 0, 0) : x.end(0), call % 2 * 20);
+        c.due("call 511", x.text(0, NONE), 0);
+        c.due("call 512", x.village(0, 3), 2);
+    }
+
     // ---- 2: feed
 
     /** A tape of blanks, so many twenties. */
