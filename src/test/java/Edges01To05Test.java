@@ -381,6 +381,20 @@ final class Edges01To05Test {
         }
     }
 
+    // a line that is one too many, and wrong itself: NONE, and nothing is told
+    static void promise04OneTooManyAndWrongIsNone(Check c) {
+        String[] texts = {"subject 1 1;".repeat(6) + "subject 0 1;", "hour;".repeat(40) + "news 6 0;", "burned 0 1 9;".repeat(8) + "burned 3 3 0;"};
+        for (int sort = 0; sort < 3; sort++) {
+            QuarrelOvens x = full();
+            c.due("in the place of one", Check.tell(x, sort, 0, texts[sort]), NONE);
+            c.due("it stays", lines(x, sort, 0), 1);
+            QuarrelOvens y = new QuarrelOvens();
+            c.due("a further one", Check.tell(y, sort, NONE, texts[sort]), NONE);
+            c.due("count", y.count(sort), 0);
+            c.due("the tape is empty", y.end(1), NONE);
+        }
+    }
+
     // ---- 5: fault
 
     private static void fault(Check c, int sort, String text, int kind, int place) {
@@ -740,7 +754,60 @@ final class Edges01To05Test {
         fault(c, 2, eight + "\nburned 0 1 9;burned 0 1 9;", 3, 105);
     }
 
-    // "a line with such a NUMBER tells its SUBJECT, HEARTH, DEED, FACT all the same": it is then the first by place
+    /** A line with a NUMBER that can't be, at a place in it: behind all lines that may be, it is one too many at its first token. */
+    private static void tooManyAndWrong(Check c, int sort, String full, String line, int place) {
+        int oneLess = full.length() - full.indexOf(';') - 1;
+        fault(c, sort, full.substring(0, oneLess) + line, 2, oneLess + place);
+        fault(c, sort, full + line, 3, full.length());
+        fault(c, sort, full + "\n " + line + line, 3, full.length() + 2);
+        String open = full + line.substring(0, line.length() - 1);
+        fault(c, sort, open, 1, open.length());
+    }
+
+    // "a line with such a NUMBER tells its SUBJECT .. all the same"; "the first by place .. 3 a 7th SUBJECT .. at its first token"
+    static void promise05SeventhSubjectWithAWrongNumber(Check c) {
+        String six = "subject 1 1;".repeat(6);
+        tooManyAndWrong(c, 0, six, "subject 0 1;", 8);
+        tooManyAndWrong(c, 0, six, "subject 10 1;", 8);
+        tooManyAndWrong(c, 0, six, "subject 1 0;", 10);
+        tooManyAndWrong(c, 0, six, "subject 1 10;", 10);
+        tooManyAndWrong(c, 0, six, "subject 0 0;", 8);
+    }
+
+    // ".. its .. HEARTH .. all the same"; "a 5th HEARTH"
+    static void promise05FifthHearthWithAWrongNumber(Check c) {
+        String four = "hearth 1 1;".repeat(4);
+        tooManyAndWrong(c, 0, four, "hearth 0 1;", 7);
+        tooManyAndWrong(c, 0, four, "hearth 61 99;", 7);
+        tooManyAndWrong(c, 0, four, "hearth 1 0;", 9);
+        tooManyAndWrong(c, 0, four, "hearth 2 1;", 9);
+        tooManyAndWrong(c, 0, four, "hearth 0 0;", 7);
+    }
+
+    // ".. its .. DEED .. all the same"; "a 41st DEED"
+    static void promise05FortyFirstDeedWithAWrongNumber(Check c) {
+        String forty = "hour;".repeat(40);
+        tooManyAndWrong(c, 1, forty, "quarrel 8 0 0 0;", 8);
+        tooManyAndWrong(c, 1, forty, "quarrel 3 3 0 0;", 10);
+        tooManyAndWrong(c, 1, forty, "quarrel 0 1 6 0;", 12);
+        tooManyAndWrong(c, 1, forty, "quarrel 0 1 0 4;", 14);
+        tooManyAndWrong(c, 1, forty, "agree 3 3 0;", 8);
+        tooManyAndWrong(c, 1, forty, "agree 0 1 6;", 10);
+        tooManyAndWrong(c, 1, forty, "deny 3 3 0;", 7);
+        tooManyAndWrong(c, 1, forty, "deny 0 1 6;", 9);
+        tooManyAndWrong(c, 1, forty, "news 6 0;", 5);
+        tooManyAndWrong(c, 1, forty, "news 0 10;", 7);
+    }
+
+    // ".. its .. FACT all the same"; "a 9th FACT"
+    static void promise05NinthFactWithAWrongNumber(Check c) {
+        String eight = "burned 0 1 9;".repeat(8);
+        tooManyAndWrong(c, 2, eight, "burned 8 0 0;", 7);
+        tooManyAndWrong(c, 2, eight, "burned 0 8 0;", 9);
+        tooManyAndWrong(c, 2, eight, "burned 3 3 0;", 9);
+    }
+
+    // a line ahead with such a NUMBER is the first by place, however many lines come behind it
     static void promise05ALineWithAWrongNumberCountsToo(Check c) {
         fault(c, 0, "subject 0 1;" + "subject 1 1;".repeat(6), 2, 8);
         fault(c, 0, "hearth 0 1;" + "hearth 1 1;".repeat(4), 2, 7);
